@@ -7,6 +7,7 @@ public final class CallsTest {
         firstPackGoesBack();
         fetch();
         fetchTakesTheLeast();
+        fetchOfAll();
         lure();
         whoWouldComeOfItself();
         Due.end();
@@ -92,6 +93,21 @@ public final class CallsTest {
         Due.due("miss(2, 1)", x.miss(2, 1), 6);
         Due.due("two are more than itself", x.fetch(4), 4);
         Due.due("but lure by two", x.lure(2), 3);
+    }
+
+    private static void fetchOfAll() {
+        TrickHouse x = Due.of("v00/9;t1000;t1000;t1000;t1000;t1000;t1000");
+        Due.send(x, 0, 1, 2, 3, 4, 5);
+        Due.due("six who are merry alone", x.fetch(63), 63);
+        Due.due("five", x.fetch(31), 31);
+        Due.due("none can be lured", x.lure(5), TrickHouse.NONE);
+        // 0 would stay with any one of five others.
+        Due.due("miss(0, 1)", x.miss(0, 1), 0);
+        for (int a = 1; a < 6; a++) {
+            Due.due("cheer", x.cheer(a, 1), 0);
+        }
+        Due.due("lure(0) by all others", x.lure(0), 62);
+        Due.due("fetch(1) by itself", x.fetch(1), 1);
     }
 
     private static void lure() {

@@ -13,6 +13,7 @@ public final class SheetsTest {
         asKinds();
         traceWraps();
         faultsOfCallsThatNameThem();
+        refusalsWipeFaults();
         many();
         Due.end();
     }
@@ -33,6 +34,7 @@ public final class SheetsTest {
         answers(x, "sheet least", x.sheet(0, 0, Integer.MIN_VALUE), SIZE, 4);
         Due.due("it has nothing still", x.lose(0), 0);
         answers(x, "sheet(0, 0, 0)", x.sheet(0, 0, 0), 1, 0);
+        answers(x, "a row of none has no cell", x.put(0, 0, 1), INDEX, 3);
         Due.due("a row of none is a row", x.lose(0), 1);
         Due.due("lose again", x.lose(0), 0);
         Due.due("lose(-1)", x.lose(-1), TrickHouse.UNKNOWN);
@@ -41,10 +43,12 @@ public final class SheetsTest {
         answers(x, "put(3, 59, 7)", x.put(3, 59, 7), 1, 0);
         answers(x, "put(3, 60, 7)", x.put(3, 60, 7), INDEX, 3);
         answers(x, "put(3, -1, 7)", x.put(3, -1, 7), INDEX, 3);
+        answers(x, "put(3, 0, 8)", x.put(3, 0, 8), 1, 0);
         answers(x, "a refused sheet", x.sheet(3, 2, -1), SIZE, 4);
         answers(x, "changes nothing", x.cell(3, 59, 2), 7, 0);
         answers(x, "a new row", x.sheet(3, 2, 60), 1, 0);
         answers(x, "is of 0", x.cell(3, 59, 2), 0, 0);
+        answers(x, "from its first on", x.cell(3, 0, 2), 0, 0);
         answers(x, "a shorter one", x.sheet(3, 1, 2), 1, 0);
         answers(x, "has no more", x.put(3, 2, 1), INDEX, 3);
         answers(x, "put(0, 0, 1)", x.put(0, 0, 1), NULL, 1);
@@ -224,6 +228,42 @@ public final class SheetsTest {
         Due.due("null", x.put(3, 0, 1), NULL);
         Due.due("a text that is wrong", x.city(0, 0, 0, 1), -100);
         Due.due("is no fault", x.fault(), 0);
+    }
+
+    private static void refusalsWipeFaults() {
+        TrickHouse x = Due.of("v00/9;t1500");
+        fail(x);
+        answers(x, "city(4, 0, 0, 0)", x.city(4, 0, 0, 0), TrickHouse.UNKNOWN, 0);
+        fail(x);
+        answers(x, "city(0, 3, 0, 0)", x.city(0, 3, 0, 0), TrickHouse.OUTSIDE, 0);
+        fail(x);
+        answers(x, "year(4, 0, 0, 0, 0)", x.year(4, 0, 0, 0, 0), TrickHouse.UNKNOWN, 0);
+        fail(x);
+        answers(x, "year(0, 0, 0, 0, 6)", x.year(0, 0, 0, 0, 6), TrickHouse.OUTSIDE, 0);
+        fail(x);
+        answers(x, "year of no pairs", x.year(0, 0, 0, 1, 0), TrickHouse.UNKNOWN, 0);
+        fail(x);
+        answers(x, "sheet(4, 0, 0)", x.sheet(4, 0, 0), TrickHouse.UNKNOWN, 0);
+        fail(x);
+        answers(x, "sheet(0, 0, 61)", x.sheet(0, 0, 61), TrickHouse.OUTSIDE, 0);
+        fail(x);
+        answers(x, "put(4, 0, 0)", x.put(4, 0, 0), TrickHouse.UNKNOWN, 0);
+        fail(x);
+        answers(x, "cell(4, 0, 0)", x.cell(4, 0, 0), TrickHouse.LOST, 0);
+        fail(x);
+        answers(x, "cell(0, 0, 3)", x.cell(0, 0, 3), TrickHouse.LOST, 0);
+        fail(x);
+        answers(x, "copy(0, 0, 4, 0, 0)", x.copy(0, 0, 4, 0, 0), TrickHouse.UNKNOWN, 0);
+        fail(x);
+        answers(x, "as(1, 0)", x.as(1, 0), TrickHouse.UNKNOWN, 0);
+        TrickHouse none = new TrickHouse();
+        Due.row(none, 0, 0, 0, 0);
+        fail(none);
+        answers(none, "year without a city", none.year(0, 0, 0, 1, 0), TrickHouse.STATE, 0);
+    }
+
+    private static void fail(TrickHouse x) {
+        answers(x, "sheet(3, 0, -1)", x.sheet(3, 0, -1), SIZE, 4);
     }
 
     private static void many() {

@@ -51,10 +51,12 @@ public final class ThereTest {
     }
 
     private static void companyIsTakenInRounds() {
-        // Each one is held by the one behind it alone; the last holds on to nothing that there is.
-        TrickHouse x = Due.of("v00/1;t1115;t1214;t1312;t1409;t1505;t1649");
+        // Each one is held as long as the one behind it is: six rounds, one of each.
+        TrickHouse x = Due.of("v00/1;t1101;t1102;t1103;t1104;t1105;t1106");
         Due.due("one after another", x.company(63), 0);
-        Due.due("miss(5, 15)", x.miss(5, 15), 49);
+        Due.due("miss(0, 0)", x.miss(0, 0), 1);
+        Due.due("all but the first", x.company(63), 1);
+        Due.due("miss(5, 5)", x.miss(5, 5), 6);
         Due.due("all are held", x.company(63), 63);
     }
 
