@@ -164,5 +164,12 @@ public final class HeardTest {
         // 1 is left unless it is called for, or all three others are.
         odds(x, 1, 7, 16);
         odds(x, 3, 1, 2);
+        TrickHouse six = Due.of("v00/9;t1000;t1000;t1000;t1000;t1000;t1000");
+        Due.send(six, 0, 1, 2, 3, 4, 5);
+        odds(six, 5, 1, 2);
+        Due.due("miss(5, 1)", six.miss(5, 1), 0);
+        odds(six, 5, 0, 1);
+        Due.due("cheer(0, 1)", six.cheer(0, 1), 0);
+        odds(six, 5, 1, 4);
     }
 }
