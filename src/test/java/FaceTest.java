@@ -100,9 +100,19 @@ public final class FaceTest {
                 Due.due(field + " is no static state", Modifier.isStatic(how) && !Modifier.isFinal(how) ? 1 : 0, 0);
             }
             for (Method method : one.getDeclaredMethods()) {
+                Due.due(method + " has a name of its own", isOfFace(method.getName()) ? 1 : 0, 0);
                 Due.due(method + " takes seven at most", method.getParameterCount() <= 7 ? 1 : 0, 1);
             }
         }
+    }
+
+    private static boolean isOfFace(String name) {
+        for (String method : FACE) {
+            if (method.contains(" " + name + "(")) {
+                return true;
+            }
+        }
+        return false;
     }
 
     private static void text() throws IOException {
