@@ -511,7 +511,7 @@ public final class TrickHouse {
         static int laughOfKind(int kind, int gaiety) {
             switch (kind) {
                 case PERSON: return 2 * gaiety;
-                case BEAST: return Math.max(0, gaiety - 1);
+                case BEAST: return gaiety > 0 ? gaiety - 1 : 0;
                 default: return gaiety;
             }
         }
